@@ -307,6 +307,10 @@ public final class LowLand {
         return within(hour, 0, DAY - 1);
     }
 
+    private static int hourOfDay(int hour) {
+        return Math.floorMod(hour, DAY);
+    }
+
     private static boolean isPlanned(int n) {
         return within(n, 1, AHEAD);
     }
@@ -437,7 +441,7 @@ public final class LowLand {
         }
 
         private boolean pausesAt(int p, int hour) {
-            return (pauses[p] >> hour % DAY & 1) != 0;
+            return (pauses[p] >> hourOfDay(hour) & 1) != 0;
         }
 
         private boolean mustRunOn(int p, int hour) {
@@ -532,7 +536,7 @@ public final class LowLand {
         }
 
         private int cost(int pumpsOn, int when) {
-            return price[when % DAY] * Integer.bitCount(pumpsOn);
+            return price[hourOfDay(when)] * Integer.bitCount(pumpsOn);
         }
 
         /** Changes the row of water and the flow alone, so that plans can try steps out. */
@@ -547,7 +551,7 @@ public final class LowLand {
                 flow.pumps[p] = (pumpsOn >> p & 1) != 0 ? passPump(p, water) : 0;
             }
             for (int s = 0; s < sluices.size; s++) {
-                flow.sluices[s] = sluices.stands[s] ? passSluice(s, water, tide[when % DAY]) : 0;
+                flow.sluices[s] = sluices.stands[s] ? passSluice(s, water, tide[hourOfDay(when)]) : 0;
             }
         }
 

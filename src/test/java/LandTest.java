@@ -25,6 +25,7 @@ final class LandTest {
         stepWithGreatNumbers();
         pausesInSteps();
         passed();
+        aFullLand();
         Due.end();
     }
 
@@ -74,6 +75,7 @@ final class LandTest {
         Due.is("water", x.told(1, 0), 100000);
         Due.is("level", x.told(1, 1), 2500);
         Due.is("level of none", x.told(0, 1), -500);
+        Due.is("LOW at first is below all beds", x.told(0, 2), 0);
         for (int d = 2; d < 6; d++) {
             Due.is("ditch", x.ditch(5, 5, 5), d);
         }
@@ -494,5 +496,43 @@ final class LandTest {
         Due.is("pump", x.passed(1, 0), 0);
         Due.is("sluice", x.passed(2, 0), 0);
         Due.is("weir", x.passed(0, 0), 1);
+    }
+
+    /** Promises 2 to 24: all that can stand in a land at once, through whole days. */
+    private static void aFullLand() {
+        LowLand x = new LowLand();
+        for (int d = 0; d < 6; d++) {
+            Due.is("ditch", x.ditch(d + 1, d, 600), d);
+            Due.is("band", x.band(d, 0, 5), 1);
+        }
+        for (int w = 0; w < 8; w++) {
+            Due.is("weir", x.weir(w % 6, (w + 1) % 6, 0, 1), w);
+        }
+        for (int p = 0; p < 4; p++) {
+            Due.is("pump", x.pump(p, p < 2 ? p + 1 : LowLand.NONE, 5, 1, 0), p);
+            Due.is("sluice", x.sluice(5 - p, 1), p);
+            Due.is("open", x.open(p, true), 0);
+            Due.is("turn", x.turn(p, true), 0);
+        }
+        for (int w = 0; w < 3; w++) {
+            Due.is("world", x.world(), w);
+            Due.is("foretell", x.foretell(w, 5, 100), 1);
+        }
+        int water = 3600;
+        for (int i = 0; i < 48; i++) {
+            int out = x.told(2, 4) + x.told(3, 4) + x.told(4, 4) + x.told(5, 4);
+            Due.is("the best breach is that of the plan", x.planned(6, 1), x.judge(6, x.plan(6), 2));
+            Due.is("a step", x.step(1) >= 0 ? 1 : 0, 1);
+            // Pumps 0 and 1 leave all water in the land; what went out of ditches 2 to 5 left it.
+            water += 21 - (x.told(2, 4) + x.told(3, 4) + x.told(4, 4) + x.told(5, 4) - out);
+            Due.is("no water comes or goes but so", x.count(9), water);
+        }
+        int sum = 0;
+        for (int d = 0; d < 6; d++) {
+            sum += x.told(d, 0);
+            Due.is("rain", x.told(d, 3), 48 * (d + 1));
+        }
+        Due.is("all water", x.count(9), sum);
+        Due.is("hour", x.count(5), 48);
     }
 }
