@@ -97,7 +97,7 @@ public final class LowLand {
         if (!pumps.has(p)) {
             return BAD;
         }
-        if (on ? pumps.pausesAt(p, land.hour) : pumps.mustRunOn(p, land.hour)) {
+        if (on ? pumps.mustStayOff(p, land.hour) : pumps.mustRunOn(p, land.hour)) {
             return STATE;
         }
         int was = pumps.isOn(p) ? 1 : 0;
@@ -444,6 +444,11 @@ public final class LowLand {
             return (pauses[p] >> hourOfDay(hour) & 1) != 0;
         }
 
+        /** Pauses hold a pump from coming on; one that is on still does not come on, it goes on up to the step. */
+        private boolean mustStayOff(int p, int hour) {
+            return !isOn(p) && pausesAt(p, hour);
+        }
+
         private boolean mustRunOn(int p, int hour) {
             return isOn(p) && hour - cameOn[p] < least[p];
         }
@@ -524,15 +529,22 @@ public final class LowLand {
             for (int d = 0; d < ditches.size; d++) {
                 ditches.rained[d] += rain * ditches.area[d];
             }
+            drain();
+            spent += cost(pumps.on, hour);
+            hour++;
+            return ditches.alarms();
+        }
+
+        /** Counts what the latest step let out of the land: what a pump brought to another ditch did not go out. */
+        private void drain() {
             for (int p = 0; p < pumps.size; p++) {
-                ditches.drained[pumps.from[p]] += latest.pumps[p];
+                if (pumps.to[p] == NONE) {
+                    ditches.drained[pumps.from[p]] += latest.pumps[p];
+                }
             }
             for (int s = 0; s < sluices.size; s++) {
                 ditches.drained[sluices.from[s]] += latest.sluices[s];
             }
-            spent += cost(pumps.on, hour);
-            hour++;
-            return ditches.alarms();
         }
 
         private int cost(int pumpsOn, int when) {
@@ -615,6 +627,9 @@ public final class LowLand {
 
     /** Finds and judges plans. Its rows are made once: a search makes no objects. */
     private static final class Planner {
+        /** A breach above that of any plan. */
+        private static final long NONE_FOUND = 1L << 62;
+
         private final Land land;
         private final Worlds worlds;
         /** Row MOST_WORLDS k + w: the water of world w ahead of hour k. */
@@ -635,7 +650,7 @@ public final class LowLand {
             hours = n;
             number = 0;
             cost = 0;
-            breach = Long.MAX_VALUE;
+            breach = NONE_FOUND;
             begin();
             grow(this, 0, 0, 0, 0);
         }

@@ -16,6 +16,7 @@ final class LandTest {
         sluice();
         turn();
         turnOfRunningPumps();
+        turnOnInAPause();
         open();
         tide();
         price();
@@ -120,14 +121,16 @@ final class LandTest {
         x.step(3);
         Due.is("rain", x.told(0, 3), 21);
         Due.is("rain", x.told(1, 3), 6);
-        Due.is("what a pump took to another", x.told(0, 4), 5);
+        Due.is("what a pump brings to another does not go out", x.told(0, 4), 0);
         // 50 + 6 + 5 - 7 = 54: a level of 27, 7 above the tide.
         Due.is("what a pump and a sluice took out", x.told(1, 4), 14);
         Due.is("water", x.told(0, 0), 36);
         Due.is("water", x.told(1, 0), 47);
         x.step(1);
         Due.is("rain so far", x.told(0, 3), 28);
-        Due.is("out so far", x.told(0, 4), 10);
+        Due.is("nothing goes out of it", x.told(0, 4), 0);
+        // 47 + 2 + 5 - 7 = 47: a level of 23, as far above the tide of 0.
+        Due.is("out so far", x.told(1, 4), 14 + 7 + 23);
         Due.is("no such ditch", x.told(2, 0), FAR);
         Due.is("no such ditch", x.told(-1, 0), FAR);
         Due.is("no such what", x.told(0, 5), FAR);
@@ -137,6 +140,25 @@ final class LandTest {
         Due.is("level", y.told(1, 1), 1001);
         Due.is("above the first HIGH", y.told(1, 2), 1);
         Due.is("weirs do not count as out", weirOut(), 0);
+        toldOfPumpsOfBothKinds();
+    }
+
+    /** Promise 4: each pump of a ditch by where it goes to; what could not be pumped did not go out. */
+    private static void toldOfPumpsOfBothKinds() {
+        LowLand x = withDitches(2);
+        x.pump(0, 1, 30, 1, 0);
+        x.pump(0, LowLand.NONE, 40, 1, 0);
+        x.pump(0, 1, 20, 1, 0);
+        x.pump(0, LowLand.NONE, 50, 1, 0);
+        for (int p = 0; p < 4; p++) {
+            x.turn(p, true);
+        }
+        x.step(0);
+        Due.is("out by pumps 1 and 3", x.told(0, 4), 40 + 10);
+        Due.is("brought by pumps 0 and 2", x.told(1, 0), 150);
+        Due.is("nothing out of there", x.told(1, 4), 0);
+        x.judge(1, 3, 2);
+        Due.is("a plan lets nothing out", x.told(0, 4), 50);
     }
 
     private static int weirOut() {
@@ -225,8 +247,9 @@ final class LandTest {
         Due.is("behind its pause", x.turn(0, true), 0);
         steps(x, 21);
         Due.is("hour", x.count(5), 23);
+        Due.is("the last hour of the day, but on still", x.turn(0, true), 1);
+        Due.is("on still", x.turn(0, false), 1);
         Due.is("the last hour of the day", x.turn(0, true), -2);
-        Due.is("though on", x.turn(0, false), 1);
         steps(x, 1);
         Due.is("the next day", x.turn(0, true), 0);
         x.step(0);
@@ -255,6 +278,31 @@ final class LandTest {
         Due.is("five hours since", x.turn(0, false), -2);
         x.step(0);
         Due.is("six hours since", x.turn(0, false), 1);
+    }
+
+    /** Promise 8: a pump that is on still in its pause does not come on; the step takes it off all the same. */
+    private static void turnOnInAPause() {
+        LowLand x = withDitches(1);
+        x.pump(0, LowLand.NONE, 10, 3, 1 << 1);
+        Due.is("ahead of its pause", x.turn(0, true), 0);
+        x.step(0);
+        Due.is("on still", x.turn(0, true), 1);
+        Due.is("on still", x.turn(0, true), 1);
+        Due.is("in its least run, in its pause too", x.turn(0, false), -2);
+        Due.is("it is on", x.count(8), 1);
+        x.step(0);
+        Due.is("off for the step", x.passed(1, 0), 0);
+        Due.is("and off behind it", x.turn(0, true), 0);
+        x.step(0);
+        x.step(0);
+        Due.is("two hours since it came on again", x.turn(0, false), -2);
+        LowLand y = withDitches(1);
+        y.pump(0, LowLand.NONE, 10, 2, 1 << 1);
+        y.turn(0, true);
+        y.step(0);
+        Due.is("on still: no new run", y.turn(0, true), 1);
+        Due.is("followed off in its pause", y.follow(1), 0);
+        Due.is("it would come on", y.turn(0, true), -2);
     }
 
     /** Promise 9. */
@@ -432,7 +480,7 @@ final class LandTest {
         Due.is("a great level", x.told(2, 1), hours * 4100);
         Due.is("all water", x.count(9), 100000 + hours * 10100);
         Due.is("rain", x.told(1, 3), hours * 5000);
-        Due.is("out", x.told(0, 4), hours * 2000);
+        Due.is("none went out", x.told(0, 4), 0);
         Due.is("cost", x.count(7), hours * 4);
         Due.is("breach", x.told(2, 2), hours * 4100 - 1000);
         for (int p = 0; p < 4; p++) {
@@ -448,6 +496,7 @@ final class LandTest {
         Due.is("evened", x.passed(0, 0), 50 * height / 51);
         Due.is("let out", x.passed(2, 0), before - 50 * height / 51);
         Due.is("water", x.told(2, 0), 0);
+        Due.is("out", x.told(2, 4), before - 50 * height / 51);
     }
 
     /** Promise 12: pumps that are on in their pauses are off for the step, and stay off. */
@@ -520,11 +569,10 @@ final class LandTest {
         }
         int water = 3600;
         for (int i = 0; i < 48; i++) {
-            int out = x.told(2, 4) + x.told(3, 4) + x.told(4, 4) + x.told(5, 4);
+            int out = outOfAll(x);
             Due.is("the best breach is that of the plan", x.planned(6, 1), x.judge(6, x.plan(6), 2));
             Due.is("a step", x.step(1) >= 0 ? 1 : 0, 1);
-            // Pumps 0 and 1 leave all water in the land; what went out of ditches 2 to 5 left it.
-            water += 21 - (x.told(2, 4) + x.told(3, 4) + x.told(4, 4) + x.told(5, 4) - out);
+            water += 21 - (outOfAll(x) - out);
             Due.is("no water comes or goes but so", x.count(9), water);
         }
         int sum = 0;
@@ -534,5 +582,13 @@ final class LandTest {
         }
         Due.is("all water", x.count(9), sum);
         Due.is("hour", x.count(5), 48);
+    }
+
+    private static int outOfAll(LowLand x) {
+        int sum = 0;
+        for (int d = 0; d < x.count(0); d++) {
+            sum += x.told(d, 4);
+        }
+        return sum;
     }
 }

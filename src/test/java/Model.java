@@ -185,7 +185,7 @@ final class Model {
     int turn(int p, boolean on) {
         if (!at(p, pumps)) return BAD;
         Pump it = pumps.get(p);
-        if (on && it.pausesIn(hour)) return STATE;
+        if (on && !it.on && it.pausesIn(hour)) return STATE;
         if (!on && it.on && hour < it.since + it.least) return STATE;
         int was = it.on ? 1 : 0;
         set(it, on);
@@ -245,8 +245,8 @@ final class Model {
         for (Pump p : pumps) {
             p.passed = p.on ? Math.min(p.rate, p.from.water) : 0;
             p.from.water -= p.passed;
-            p.from.out += p.passed;
-            if (p.to != null) p.to.water += p.passed;
+            if (p.to == null) p.from.out += p.passed;
+            else p.to.water += p.passed;
             if (p.on) spent += prices[hour % 24];
         }
         for (Sluice s : sluices) {

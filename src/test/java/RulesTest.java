@@ -21,7 +21,7 @@ final class RulesTest {
         "int tides(int,int,int)", "int count(int)"};
     private static final Set<String> CONSTANTS = Set.of("BAD", "STATE", "FULL", "NONE");
     private static final String[] FORBIDDEN = {"throw", "throws", "try", "catch", "finally", "synchronized", "assert",
-        "package", "instanceof", "native", "volatile", "transient", "Object", "System\\.out", "System\\.nanoTime",
+        "package", "instanceof", "native", "volatile", "transient", "Object", "MAX_VALUE", "System\\.out", "System\\.nanoTime",
         "Thread", "Random", "->", "::", "\\w+Exact\\b", "static \\{"};
 
     private RulesTest() {
