@@ -547,7 +547,7 @@ final class LandTest {
         Due.is("weir", x.passed(0, 0), 1);
     }
 
-    /** Promises 2 to 24: all that can stand in a land at once, through whole days. */
+    /** Promises 2 to 24: all that can stand in a land at once, through a day and a night. */
     private static void aFullLand() {
         LowLand x = new LowLand();
         for (int d = 0; d < 6; d++) {
@@ -567,26 +567,27 @@ final class LandTest {
             Due.is("world", x.world(), w);
             Due.is("foretell", x.foretell(w, 5, 100), 1);
         }
-        int water = 3600;
-        for (int i = 0; i < 48; i++) {
-            int out = outOfAll(x);
+        int hours = 30, water = 3600, out = 0;
+        for (int i = 0; i < hours; i++) {
             Due.is("the best breach is that of the plan", x.planned(6, 1), x.judge(6, x.plan(6), 2));
             Due.is("a step", x.step(1) >= 0 ? 1 : 0, 1);
-            water += 21 - (outOfAll(x) - out);
+            water += 21 + out;
+            out = outOfAll(x);
+            water -= out;
             Due.is("no water comes or goes but so", x.count(9), water);
         }
         int sum = 0;
         for (int d = 0; d < 6; d++) {
             sum += x.told(d, 0);
-            Due.is("rain", x.told(d, 3), 48 * (d + 1));
+            Due.is("rain", x.told(d, 3), hours * (d + 1));
         }
         Due.is("all water", x.count(9), sum);
-        Due.is("hour", x.count(5), 48);
+        Due.is("hour", x.count(5), hours);
     }
 
     private static int outOfAll(LowLand x) {
         int sum = 0;
-        for (int d = 0; d < x.count(0); d++) {
+        for (int d = 0; d < 6; d++) {
             sum += x.told(d, 4);
         }
         return sum;

@@ -12,7 +12,7 @@ final class RandomPlansTest {
     }
 
     public static void main(String[] args) {
-        for (int seed = 0; seed < 400; seed++) {
+        for (int seed = 0; seed < 800; seed++) {
             RandomPlansTest test = new RandomPlansTest(seed);
             test.build();
             test.run(seed % 20 == 0 ? 6 : 4);
@@ -52,8 +52,12 @@ final class RandomPlansTest {
         }
     }
 
+    /** Some 60 calls an hour: no object is used for more than 512. */
     private void run(int hours) {
-        for (int i = 0; i < 10; i++) {
+        for (int i = some(0, 3) * some(0, 8); i > 0; i--) {
+            Due.is("step", got.step(0), want.step(0));
+        }
+        for (int i = 0; i < 5; i++) {
             disturb();
             int n = some(1, hours);
             Due.is("plan", got.plan(n), want.plan(n));
