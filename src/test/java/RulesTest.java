@@ -24,13 +24,20 @@ final class RulesTest {
         "package", "instanceof", "native", "volatile", "transient", "Object", "MAX_VALUE", "System\\.out", "System\\.nanoTime",
         "Thread", "Random", "->", "::", "\\w+Exact\\b", "static \\{"};
 
+    /** What the class takes from the library; each stands in rule 4. */
+    private static final Set<String> LIBRARY = Set.of("Arrays.fill", "System.arraycopy", "Math.max", "Math.min",
+        "Math.floorMod", "Integer.bitCount");
+
     private RulesTest() {
     }
 
     public static void main(String[] args) throws IOException {
         face();
         nested();
-        words(bare(Files.readString(Path.of("src/main/java/LowLand.java"))));
+        String text = bare(Files.readString(Path.of("src/main/java/LowLand.java")));
+        words(text);
+        library(text);
+        parts(Files.readString(Path.of("src/main/java/LowLand.java")));
         Due.end();
     }
 
@@ -110,5 +117,43 @@ final class RulesTest {
         }
         Due.is("methods were found", longest > 5 ? 1 : 0, 1);
         Due.is("the longest method", longest <= 60 ? 1 : 0, 1);
+    }
+
+    private static void library(String text) {
+        Matcher calls = Pattern.compile("\\b([A-Z][A-Za-z]*\\.[a-z]\\w*)\\b").matcher(text.replaceAll("import [^;]*;", ""));
+        int found = 0;
+        while (calls.find()) {
+            found++;
+            Due.is(calls.group(1) + " may be used", LIBRARY.contains(calls.group(1)) ? 1 : 0, 1);
+        }
+        Due.is("uses of the library were found", found > 5 ? 1 : 0, 1);
+        Due.is("no text is joined or made", text.contains("\"") ? 1 : 0, 0);
+        Due.is("calls make no objects, constructors alone do", madeOutsideConstructors(text), 0);
+    }
+
+    /** How many lines with "new" are neither fields nor in a constructor. */
+    private static int madeOutsideConstructors(String text) {
+        int made = 0;
+        boolean constructor = false;
+        for (String line : text.split("\n")) {
+            if (line.matches(" {4,8}(public|private) [A-Z]\\w*\\(.*\\{")) {
+                constructor = true;
+            } else if (line.matches(" {4,8}\\}")) {
+                constructor = false;
+            }
+            made += line.matches(".*\\bnew\\b.*") && !constructor && !line.matches(" +private final .*;") ? 1 : 0;
+        }
+        return made;
+    }
+
+    /** "Ahead of the calls .. the interface says": the names of the two parts stand where the document puts them. */
+    private static void parts(String whole) {
+        int plans = whole.indexOf("// ---- worlds, plans");
+        int sheets = whole.indexOf("// ---- sheets");
+        Due.is("passed, then worlds, plans", whole.indexOf("public int passed(") < plans ? 1 : 0, 1);
+        Due.is("worlds, plans, then world", plans < whole.indexOf("public int world(") ? 1 : 0, 1);
+        Due.is("follow, then sheets", whole.indexOf("public int follow(") < sheets ? 1 : 0, 1);
+        Due.is("sheets, then sheet", sheets < whole.indexOf("public int sheet(") ? 1 : 0, 1);
+        Due.is("both parts", Math.min(plans, sheets) > 0 ? 1 : 0, 1);
     }
 }
